@@ -184,6 +184,13 @@ public final class PromisesTest {
         due("riper now", x.paste(3, 0, 31), 30);
         due("by what ripe is now", x.piece(0, 0, 1, 10), -3);
 
+        x.paste(3, 0, 30);
+        due("mixed on day 30", x.batch(3, 50), 1);
+        x.days(29);
+        due("not ripe by its own day", x.piece(1, 0, 1, 10), -3);
+        x.days(1);
+        due("ripe by its own day", x.piece(1, 0, 1, 10), 2);
+
         PorcelainWorks y = ready();
         pieces(y, 0, 0, 80);
         due("pieces", y.count(2), 80);
@@ -307,6 +314,9 @@ public final class PromisesTest {
         due("5 below one", x.heat(1, 1), 1);
         due("5 above two", x.heat(6, 1), 5);
         due("5 below one", x.heat(7, 1), 1);
+        x.place(11, 0, 21);
+        due("20 below one", x.heat(10, 1), 3);
+        due("20 above one", x.heat(11, 1), 19);
     }
 
     private static void stack() {
@@ -541,6 +551,42 @@ public final class PromisesTest {
         due("first", x.bestPlace(0), 0);
         due("second", x.bestPlace(1), -9);
         due("third", x.bestPlace(2), 1);
+        due("laid at once", x.lay(), 2);
+        bestStackingByMoves();
+    }
+
+    /** The worthiest must move on, so that the next one can, so that the last one has its place. */
+    private static void bestStackingByMoves() {
+        PorcelainWorks x = new PorcelainWorks();
+        int[] gains = {10, 20, 30, 40, 6};
+        int[] peaks = {110, 200, 300};
+        for (int p = 0; p < 5; p++) {
+            x.place(p, 0, gains[p]);
+        }
+        ripen(x, 0, 105, 205);
+        ripen(x, 1, 105, 115);
+        ripen(x, 2, 195, 305);
+        for (int p = 0; p < 3; p++) {
+            x.batch(p, 100);
+            x.piece(p, 0, 1, 10);
+        }
+        x.want(2, 9);
+        x.want(0, 8);
+        x.want(1, 7);
+        x.wood(10);
+        due("all three, without asking for places", x.lay(), 3);
+        due("peak", x.peak(4), 98);
+        due("moved twice", x.pieceOf(2, 4), 2);
+        due("moved once", x.pieceOf(0, 4), 1);
+        due("its only place", x.pieceOf(1, 4), 0);
+        for (int p = 0; p < 3; p++) {
+            due("peak", x.peak(p), peaks[p]);
+            x.unstack(p);
+        }
+        x.want(2, 9);
+        x.want(0, 8);
+        x.want(1, 7);
+        due("all three", x.best(), 24);
     }
 
     private static void colour() {
@@ -657,6 +703,11 @@ public final class PromisesTest {
         due("none such", y.painter(3), -9);
         due("none such", y.painter(-1), -9);
         refused(y, 0, 0, 0, 0, 0);
+        y.skill(2, 20);
+        due("without asking for days", y.painter(0), 0);
+        due("changed skill", y.painter(1), 1);
+        due("changed skill", y.painter(2), 2);
+        y.skill(2, 1);
         y.skill(1, 1);
         due("changed skill", y.least(), 3);
         due("all at one", y.painter(2), 0);
@@ -822,11 +873,20 @@ public final class PromisesTest {
         due("known by a talk, not seen", x.see(1, 0), 1);
         x.days(1);
         due("on another day", x.see(1, 0), 0);
+        PorcelainWorks y = new PorcelainWorks();
+        for (int i = 0; i < 32; i++) {
+            due("all hands see all", y.see(i / 2, i % 2), 1);
+        }
+        for (int i = 0; i < 32; i++) {
+            due("before", y.see(i / 2, i % 2), 0);
+            due("both", y.knows(i / 2), 3);
+        }
 
         promise = 32;
         due("talk", x.talk(1, 2), 1);
         due("again", x.talk(1, 2), 0);
         due("turned", x.talk(2, 1), 0);
+        due("with another one", y.talk(1, 2) + y.talk(1, 3) + y.talk(4, 2), 3);
         due("with itself", x.talk(3, 3), -1);
         due("no hand", x.talk(16, 0), -1);
         due("no hand", x.talk(0, 16), -1);
