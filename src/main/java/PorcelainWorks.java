@@ -379,7 +379,7 @@ public final class PorcelainWorks {
         if (refusal != 0) {
             return refuse(refusal);
         }
-        return matching.find(kind, n, t, pieces, clay) ? matching.lacking() : NONE;
+        return matching.find(kind, n, t, pieces) ? matching.lacking() : NONE;
     }
 
     public int matched(int kind, int n, int t, int i) {
@@ -387,7 +387,7 @@ public final class PorcelainWorks {
         if (refusal != 0) {
             return refuse(refusal);
         }
-        if (!matching.find(kind, n, t, pieces, clay) || !within(i, matching.size)) {
+        if (!matching.find(kind, n, t, pieces) || !within(i, matching.size)) {
             return NONE;
         }
         matching.sortByNumber();
@@ -399,7 +399,7 @@ public final class PorcelainWorks {
         if (refusal != 0) {
             return refuse(refusal);
         }
-        if (!matching.find(kind, n, t, pieces, clay)) {
+        if (!matching.find(kind, n, t, pieces)) {
             return refuse(STATE);
         }
         for (int i = 0; i < matching.size; i++) {
@@ -521,7 +521,7 @@ public final class PorcelainWorks {
             case 5:
                 return pieces.peaks[piece];
             case 6:
-                return pieces.whiteOf(piece, clay);
+                return pieces.whites[piece];
             default:
                 return refuse(OTHER);
         }
@@ -681,6 +681,8 @@ public final class PorcelainWorks {
         private final int[] states = new int[MOST_PIECES];
         private final int[] spots = new int[MOST_PIECES];
         private final int[] peaks = new int[MOST_PIECES];
+        /** Kept from the firing, for a later change of the paste changes no piece that is fired. */
+        private final int[] whites = new int[MOST_PIECES];
         private int number = 0;
 
         private int shape(int paste, int kind, int size) {
@@ -690,6 +692,7 @@ public final class PorcelainWorks {
             states[number] = RAW;
             spots[number] = NONE;
             peaks[number] = NONE;
+            whites[number] = NONE;
             number++;
             return number - 1;
         }
@@ -703,19 +706,12 @@ public final class PorcelainWorks {
             }
             states[piece] = FIRED;
             sizes[piece] = clay.shrunk(pastes[piece], sizes[piece]);
+            whites[piece] = clay.whiteAt(pastes[piece], heat);
             return true;
         }
 
         private boolean isForSale(int piece) {
             return states[piece] == FIRED || states[piece] == PAINTED;
-        }
-
-        /** Worked out anew each time, for the document ties it to LOW and HIGH, which may change. */
-        private int whiteOf(int piece, Clay clay) {
-            if (!isForSale(piece) && states[piece] != SOLD) {
-                return NONE;
-            }
-            return clay.whiteAt(pastes[piece], peaks[piece]);
         }
 
         private int inState(int state) {
@@ -1076,8 +1072,8 @@ public final class PorcelainWorks {
         private int size = 0;
 
         /** Leaves the matched pieces in members, the whitest first: whether there are any. */
-        private boolean find(int kind, int n, int t, Pieces pieces, Clay clay) {
-            gather(kind, pieces, clay);
+        private boolean find(int kind, int n, int t, Pieces pieces) {
+            gather(kind, pieces);
             size = 0;
             for (int first = 0; first + n <= candidates; first++) {
                 if (whites[first] - whites[first + n - 1] <= t) {
@@ -1090,11 +1086,11 @@ public final class PorcelainWorks {
         }
 
         /** Puts all pieces of a kind in the row, the whitest first, alike ones by numbers. */
-        private void gather(int kind, Pieces pieces, Clay clay) {
+        private void gather(int kind, Pieces pieces) {
             candidates = 0;
             for (int i = 0; i < pieces.number; i++) {
                 if (pieces.kinds[i] == kind && pieces.isForSale(i)) {
-                    insert(i, pieces.whiteOf(i, clay));
+                    insert(i, pieces.whites[i]);
                 }
             }
         }

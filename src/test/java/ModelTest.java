@@ -50,7 +50,7 @@ public final class ModelTest {
             {4, 4, 4, 4, 4, 5, 5, 5, 13, 13, 13, 13, 13, 13, 14, 14, 15, 15, 15, 15, 15, 10, 11},
             {17, 17, 17, 18, 19, 20, 21, 22, 22, 23, 23, 28, 29, 39},
             {30, 30, 31, 31, 31, 31, 3, 32, 33, 34, 34, 35, 36, 37, 37, 39},
-            {4, 4, 4, 4, 5, 10, 10, 10, 10, 10, 10, 10, 10, 6, 12, 24, 25, 25, 25, 26, 26, 26, 38},
+            {1, 4, 4, 4, 4, 5, 10, 10, 10, 10, 10, 10, 10, 10, 6, 12, 24, 25, 25, 25, 26, 26, 26, 38},
         };
         private final PorcelainWorks works = new PorcelainWorks();
         private final Model model = new Model();
@@ -296,6 +296,9 @@ public final class ModelTest {
         private int state = 0;
         private int place = -9;
         private int peak = -9;
+        /** LOW and HIGH of its paste at the firing. */
+        private int lowThen;
+        private int highThen;
         private boolean told = false;
         private int worth;
     }
@@ -612,6 +615,8 @@ public final class ModelTest {
             for (Piece piece : pieces) {
                 if (piece.place != -9) {
                     piece.peak = peak(piece.place);
+                    piece.lowThen = pastes[piece.paste][2];
+                    piece.highThen = pastes[piece.paste][3];
                     piece.place = -9;
                     if (fires(piece, piece.peak)) {
                         piece.state = 1;
@@ -761,10 +766,9 @@ public final class ModelTest {
             return best;
         }
 
-        private int white(Piece piece) {
-            int low = pastes[piece.paste][2];
-            int high = pastes[piece.paste][3];
-            return Math.max(0, 100 - Math.abs(piece.peak - (low + high) / 2) / 5);
+        private static int white(Piece piece) {
+            int middle = (piece.lowThen + piece.highThen) / 2;
+            return Math.max(0, 100 - Math.abs(piece.peak - middle) / 5);
         }
 
         private int lacking(List<Piece> chosen) {

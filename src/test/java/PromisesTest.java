@@ -1048,20 +1048,91 @@ public final class PromisesTest {
             due("fired " + what, x.pieceOf(0, what), fired[what]);
             due("broken " + what, x.pieceOf(1, what), broken[what]);
         }
-        // White goes by what LOW and HIGH are: 0 .. 600 makes the middle 300.
-        x.paste(0, 3, 601);
-        due("white", x.pieceOf(0, 6), 80);
-        x.paint(0);
-        due("white of a painted one", x.pieceOf(0, 6), 80);
-        x.paste(0, 3, 391);
-        due("5 above the middle of 195", x.pieceOf(0, 6), 99);
-        x.paste(0, 3, 393);
-        due("4 above the middle of 196", x.pieceOf(0, 6), 100);
         due("no piece", x.pieceOf(2, 7), -1);
         due("no piece", x.pieceOf(-1, 0), -1);
         due("other", x.pieceOf(0, 7), -2);
         due("other", x.pieceOf(0, -1), -2);
         refused(x, 2, 2, 0, 0, 0);
+    }
+
+    /** What WHITE a piece has that comes out of a PEAK of 200. */
+    private static int whiteAt200(int low, int high) {
+        PorcelainWorks x = new PorcelainWorks();
+        ripen(x, 0, low, high);
+        x.batch(0, 1);
+        pieces(x, 0, 0, 1);
+        x.stack(0, 0);
+        x.wood(20);
+        x.fire();
+        return x.pieceOf(0, 6);
+    }
+
+    private static void whiteEdges() {
+        promise = 39;
+        due("the middle", whiteAt200(0, 400), 100);
+        due("the middle is cut", whiteAt200(0, 401), 100);
+        due("100 below the middle of 300, which is cut", whiteAt200(0, 601), 80);
+        due("5 above the middle of 195, which is cut", whiteAt200(0, 391), 99);
+        due("4 above the middle of 196, which is cut", whiteAt200(0, 393), 100);
+        due("4 below the middle of 204", whiteAt200(200, 208), 100);
+        due("5 below the middle of 205", whiteAt200(200, 210), 99);
+        due("100 above the middle of 100", whiteAt200(0, 200), 80);
+        due("499 below the middle of 699", whiteAt200(0, 1398), 1);
+        due("500 below the middle of 700", whiteAt200(0, 1400), 0);
+        due("0 at least", whiteAt200(200, 2000), 0);
+        due("broken", whiteAt200(201, 300), -9);
+    }
+
+    /** WHITE goes by LOW and HIGH as they were at the firing, whatever the paste becomes later. */
+    private static void whiteStays() {
+        promise = 39;
+        PorcelainWorks x = new PorcelainWorks();
+        ripen(x, 0, 0, 600);
+        x.batch(0, 100);
+        pieces(x, 0, 1, 4);
+        x.stack(0, 0);
+        x.wood(20);
+        x.paste(0, 3, 500);
+        due("fired", x.fire(), 1);
+        due("by HIGH at the firing, not at the stacking", x.pieceOf(0, 6), 90);
+        x.paste(0, 2, 150);
+        due("LOW changed behind it", x.pieceOf(0, 6), 90);
+        x.paste(0, 3, 250);
+        due("HIGH changed behind it", x.pieceOf(0, 6), 90);
+        due("state", x.pieceOf(0, 0), 1);
+        x.paste(0, 1, 300);
+        due("SHRINK changed behind it", x.pieceOf(0, 2), 88);
+        x.stack(1, 0);
+        x.wood(20);
+        due("fired", x.fire(), 1);
+        due("a later one by what LOW and HIGH are then", x.pieceOf(1, 6), 100);
+        due("the one ahead", x.pieceOf(0, 6), 90);
+        x.paste(0, 2, 1000);
+        x.paste(0, 3, 0);
+        x.paint(0);
+        due("painted", x.pieceOf(0, 6), 90);
+        due("raw", x.pieceOf(2, 6), -9);
+        x.stack(2, 0);
+        x.wood(20);
+        due("none bears it", x.fire(), 0);
+        ripen(x, 0, 0, 400);
+        due("broken stays broken", x.pieceOf(2, 0), 3);
+        due("broken has none", x.pieceOf(2, 6), -9);
+
+        promise = 26;
+        due("the whiter one", x.service(1, 1, 0), 0);
+        due("not alike", x.service(1, 2, 9), -9);
+        due("within 10", x.service(1, 2, 10), 10);
+        promise = 27;
+        due("the whiter one", x.matched(1, 1, 0, 0), 1);
+        promise = 28;
+        due("not alike", x.sell(1, 2, 9), -3);
+        due("the whiter one is sold", x.sell(1, 1, 0), 1);
+        due("state", x.pieceOf(0, 0), 2);
+        due("state", x.pieceOf(1, 0), 4);
+        ripen(x, 0, 0, 2000);
+        due("white of a sold one stays", x.pieceOf(1, 6), 100);
+        due("what is left", x.service(1, 1, 0), 10);
     }
 
     private static void count() {
@@ -1114,6 +1185,8 @@ public final class PromisesTest {
         joined();
         debts();
         pieceOf();
+        whiteEdges();
+        whiteStays();
         count();
         System.out.println(wrong == 0 ? "all answers are as due" : wrong + " answers are not as due");
         if (wrong != 0) {
