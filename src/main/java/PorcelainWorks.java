@@ -65,6 +65,7 @@ public final class PorcelainWorks {
     private static final int GREATEST_SKILL = 20;
     private static final int MOST_JOBS = 8;
     private static final int GREATEST_LOAD = 500;
+    private static final int ABOVE_ALL_DAYS = MOST_JOBS * GREATEST_LOAD + 1;
 
     private static final int WHITEST = 100;
     private static final int MOST_MATCHED = 12;
@@ -1023,7 +1024,7 @@ public final class PorcelainWorks {
             for (int p = 0; p < PAINTERS; p++) {
                 busy[p] = 0;
             }
-            shortest = Integer.MAX_VALUE;
+            shortest = ABOVE_ALL_DAYS;
             shareFrom(this, 0, 0);
             shared = true;
         }

@@ -6,7 +6,9 @@ import java.lang.reflect.Modifier;
 import java.nio.charset.StandardCharsets;
 import java.nio.file.Files;
 import java.nio.file.Paths;
+import java.util.Map;
 import java.util.Set;
+import java.util.TreeMap;
 import java.util.TreeSet;
 import java.util.regex.Matcher;
 import java.util.regex.Pattern;
@@ -25,8 +27,13 @@ public final class LanguageTest {
         "\\bthrow\\b", "\\btry\\b", "\\bcatch\\b", "\\bsynchronized\\b", "\\bassert\\b", "->", "::",
         "\\bimport\\b", "\\bpackage\\b", "\\bprotected\\b", "\\bnative\\b", "\\bvolatile\\b", "\\bgoto\\b",
         "\\bSystem\\b", "\\bThread\\b", "\\bObject\\b", "Exact\\b", "\\bstatic\\s*\\{", "\\bgetClass\\b",
-        "\\bhashCode\\b", "\\btoString\\b", "\\bequals\\b", "\"",
+        "\\bhashCode\\b", "\\btoString\\b", "\\bequals\\b", "\"", "\\bwhile \\(true\\)", "\\bfor \\([^;]*; *;",
     };
+    /** All that the class takes from the library; LANGUAGE.md lists it or its like. */
+    private static final Set<String> LIBRARY =
+            Set.of("Math.max", "Math.min", "Math.abs", "Integer.numberOfTrailingZeros");
+    private static final Set<String> RECURSIVE = Set.of("shareFrom");
+    private static final int DEEPEST = 8;
 
     private static int wrong = 0;
 
@@ -36,7 +43,9 @@ public final class LanguageTest {
         noBarredWords(code);
         theFace();
         insideClasses();
-        shortMethods(code);
+        onlyThatLibrary(code);
+        constantArraysStay(code);
+        methods(code);
         System.out.println(wrong == 0 ? "the rules are kept" : wrong + " faults");
         if (wrong != 0) {
             System.exit(1);
@@ -116,17 +125,72 @@ public final class LanguageTest {
         }
     }
 
+    /** A name with a capital ahead of a dot is one of the library's, for no own class has a static member. */
+    private static void onlyThatLibrary(String code) {
+        Matcher matcher = Pattern.compile("\\b[A-Z]\\w*\\.\\w+").matcher(code);
+        while (matcher.find()) {
+            fault(!LIBRARY.contains(matcher.group()), "the library's " + matcher.group());
+        }
+    }
+
+    private static void constantArraysStay(String code) {
+        fault(Pattern.compile("\\b[A-Z][A-Z_]+\\[[^\\]]*\\] *([-+*/%&|^]|<<|>>)?=[^=]").matcher(code).find(),
+                "a constant array is changed");
+        fault(Pattern.compile("\\b[A-Z][A-Z_]+\\[[^\\]]*\\] *(\\+\\+|--)").matcher(code).find(),
+                "a constant array is counted in");
+        fault(Pattern.compile("[(,=] *(FIRST|LEAST|GREATEST)_\\w*TRAITS *[,;)]").matcher(code).find(), "a constant array is handed on");
+    }
+
     /** A method starts at a line that ends in ") {" at the depth of members and ends with its brace. */
-    private static void shortMethods(String code) {
-        Pattern start = Pattern.compile("(?m)^( {4}| {8})((?:public|private)[^;=]*?\\) \\{)$");
+    private static void methods(String code) {
+        Pattern start = Pattern.compile("(?m)^( {4}| {8})((?:public|private)[^;=]*?\\b(\\w+)\\([^()]*\\) \\{)$");
         Matcher matcher = start.matcher(code);
+        Map<String, String> bodies = new TreeMap<>();
         int methods = 0;
         while (matcher.find()) {
             int end = code.indexOf("\n" + matcher.group(1) + "}", matcher.end());
-            int lines = end < 0 ? 1000 : code.substring(matcher.end(), end).split("\n", -1).length;
+            String body = end < 0 ? "" : code.substring(matcher.end(), end);
+            int lines = end < 0 ? 1000 : body.split("\n", -1).length;
             fault(lines > 60, matcher.group(2) + " has " + lines + " lines");
+            bodies.merge(matcher.group(3), body, String::concat);
             methods++;
         }
         fault(methods < FACE.length, "the methods were not found");
+        callsAreShallow(bodies);
+    }
+
+    /** Methods of one name are taken as one, so that no depth is seen as less than it is. */
+    private static void callsAreShallow(Map<String, String> bodies) {
+        Map<String, Set<String>> calls = new TreeMap<>();
+        for (Map.Entry<String, String> method : bodies.entrySet()) {
+            Set<String> called = new TreeSet<>();
+            Matcher matcher = Pattern.compile("(\\w+)\\.(\\w+)\\(|\\b(\\w+)\\(").matcher(method.getValue());
+            while (matcher.find()) {
+                String name = matcher.group(3) == null ? matcher.group(2) : matcher.group(3);
+                boolean own = matcher.group(1) == null || !matcher.group(1).matches("[A-Z]\\w*");
+                if (own && bodies.containsKey(name)) {
+                    called.add(name);
+                }
+            }
+            calls.put(method.getKey(), called);
+        }
+        calls.get("pass").remove("pass");
+        for (String name : RECURSIVE) {
+            fault(!calls.get(name).remove(name), name + " does not call itself");
+        }
+        for (String name : calls.keySet()) {
+            int depth = depth(name, calls, 1);
+            fault(depth > DEEPEST, name + " goes " + depth + " calls deep or calls itself");
+        }
+    }
+
+    private static int depth(String name, Map<String, Set<String>> calls, int depth) {
+        int deepest = depth;
+        if (depth <= DEEPEST) {
+            for (String called : calls.get(name)) {
+                deepest = Math.max(deepest, depth(called, calls, depth + 1));
+            }
+        }
+        return deepest;
     }
 }

@@ -11,7 +11,7 @@ import java.util.TreeSet;
 
 /** Random runs, from fixed seeds, against a slow model that tries all ways. */
 public final class ModelTest {
-    private static final int RUNS = 600;
+    private static final int RUNS = 900;
     private static final int CALLS = 512;
 
     private static int wrong = 0;
@@ -28,7 +28,7 @@ public final class ModelTest {
 
     private static void run(int seed) {
         Random random = new Random(seed);
-        Caller caller = new Caller(random, seed % 6);
+        Caller caller = new Caller(random, seed % Caller.BENTS.length);
         for (int i = 0; i < CALLS; i++) {
             int[] call = caller.next();
             int got = onWorks(caller.works, call);
@@ -42,7 +42,11 @@ public final class ModelTest {
         }
     }
 
-    /** Chooses calls; each run has a bent, so that runs go deep somewhere. */
+    /**
+     * Chooses calls; each run has a bent, so that runs go deep somewhere: all calls alike, clay and kiln,
+     * the best stacking, crafts, the house, services, the kiln filled and fired again and again, and
+     * hours and days till there is no room for more.
+     */
     private static final class Caller {
         private static final int[][] BENTS = {
             {},
@@ -51,7 +55,13 @@ public final class ModelTest {
             {17, 17, 17, 18, 19, 20, 21, 22, 22, 23, 23, 28, 29, 39},
             {30, 30, 31, 31, 31, 31, 3, 32, 33, 34, 34, 35, 36, 37, 37, 39},
             {1, 4, 4, 4, 4, 5, 10, 10, 10, 10, 10, 10, 10, 10, 6, 12, 24, 25, 25, 25, 26, 26, 26, 38},
+            {4, 4, 4, 4, 13, 13, 13, 13, 13, 13, 13, 14, 15, 15, 15, 16, 10, 11, 6, 6, 12, 24, 27, 27, 25, 26, 38, 39, 5},
+            {6, 6, 6, 6, 6, 6, 6, 6, 6, 3, 3, 3, 9, 9, 8, 2, 4, 10, 12, 35, 36, 37, 37, 30, 31, 34, 39},
         };
+        private static final int STACKING = 2;
+        private static final int SERVICES = 5;
+        private static final int AGAIN = 6;
+        private static final int LONG = 7;
         private final PorcelainWorks works = new PorcelainWorks();
         private final Model model = new Model();
         private final Random random;
@@ -65,16 +75,21 @@ public final class ModelTest {
             this.bent = bent;
             this.fewHeats = random.nextBoolean();
             this.fewKinds = random.nextBoolean();
-            if (bent == 2 || bent == 5) {
+            if (ripensAtOnce()) {
                 prepare();
             }
+        }
+
+        private boolean ripensAtOnce() {
+            return bent == STACKING || bent == SERVICES || bent == AGAIN;
         }
 
         /** Pastes that are ripe at once, so that there are pieces; narrow ones where places matter. */
         private void prepare() {
             for (int p = 0; p < 6; p++) {
-                int low = bent == 2 ? 50 + random.nextInt(300) : random.nextInt(80);
-                int high = bent == 2 ? low + random.nextInt(120) : 600 + random.nextInt(600);
+                boolean narrow = bent == STACKING || bent == AGAIN && random.nextBoolean();
+                int low = narrow ? 50 + random.nextInt(300) : random.nextInt(80);
+                int high = narrow ? low + random.nextInt(120) : 600 + random.nextInt(600);
                 first.add(new int[] {1, p, 0, 0});
                 first.add(new int[] {1, p, 2, low});
                 first.add(new int[] {1, p, 3, high});
@@ -91,10 +106,13 @@ public final class ModelTest {
                 return first.remove();
             }
             int[] own = BENTS[bent];
-            int method = own.length == 0 || random.nextInt(bent == 2 ? 80 : 8) == 0
+            int method = own.length == 0 || random.nextInt(bent == STACKING ? 80 : bent == LONG ? 30 : 8) == 0
                     ? 1 + random.nextInt(39) : own[random.nextInt(own.length)];
-            if (method == 3 && bent != 4 && random.nextInt(3) != 0) {
+            if (method == 3 && bent != 4 && bent != LONG && random.nextInt(3) != 0) {
                 method = 39;
+            }
+            if (bent == LONG && (method == 7 || method == 12) && random.nextInt(6) != 0) {
+                method = 9;
             }
             return callOf(method);
         }
@@ -141,13 +159,13 @@ public final class ModelTest {
             switch (method) {
                 case 1: {
                     int what = any(0, 3);
-                    boolean ripe = what == 0 && (bent == 2 || bent == 5);
+                    boolean ripe = what == 0 && ripensAtOnce();
                     return new int[] {1, any(0, 5), what, ripe ? 0 : trait(what)};
                 }
                 case 2:
                     return new int[] {2, any(0, 5), any(1, 1000)};
                 case 3:
-                    return new int[] {3, random.nextInt(5) == 0 ? any(1, 200) : any(1, 4)};
+                    return new int[] {3, random.nextInt(bent == LONG ? 2 : 5) == 0 ? any(1, 300) : any(1, 4)};
                 case 4:
                     return new int[] {4, any(0, model.batches.size() - 1),
                         fewKinds ? random.nextInt(2) : any(0, 9), any(1, 40), any(10, 900)};
@@ -156,7 +174,7 @@ public final class ModelTest {
                     return new int[] {5, any(0, 11), what, what == 0 ? any(1, 40) : any(0, 200)};
                 }
                 case 6:
-                    return new int[] {6, random.nextBoolean() ? any(0, 50) : any(0, 9)};
+                    return new int[] {6, bent == AGAIN ? any(3, 14) : random.nextBoolean() ? any(0, 50) : any(0, 9)};
                 case 8:
                     return new int[] {8, any(0, 11)};
                 case 9:
